@@ -213,7 +213,8 @@ public final class LetterThrough {
         if (coins < 0 || coins > 99999) {
             return NONE;
         }
-        mendedSet = knownMends().bestMended(coins);
+        know(KNOWN_BUILT | KNOWN_MENDS);
+        mendedSet = built.bestMended(coins);
         mendedCoins = notes.coinsOf(mendedSet);
         return built.mendedTo[mendedSet];
     }
@@ -233,7 +234,10 @@ public final class LetterThrough {
         if (land.things() > Extra.MOST_WITH || land.lines >= MOST_LINES) {
             return NONE;
         }
-        knownNew();
+        know(KNOWN_SETS);
+        if (isNew(KNOWN_NEW)) {
+            extra.tryAll();
+        }
         if (what == 0) {
             return chance * extra.bestChance + (SURE - chance) * sets.throughIn(0, 0);
         }
@@ -248,14 +252,16 @@ public final class LetterThrough {
         if (n < 0 || n > SURE) {
             return NONE;
         }
-        return knownBuilt().shortest(n);
+        know(KNOWN_BUILT);
+        return built.shortest(n);
     }
 
     public long judge(int lines) {
         if (lines < 0 || lines >> land.lines != 0) {
             return NONE;
         }
-        return knownBuilt().builtTo[lines];
+        know(KNOWN_BUILT);
+        return built.builtTo[lines];
     }
 
     public long without(int cause) {
@@ -329,14 +335,15 @@ public final class LetterThrough {
         }
         long sum = 0;
         for (int k = 0; k <= land.lines; k++) {
-            sum += row(k) * Sets.times(chance, k) * Sets.times(SURE - chance, land.lines - k);
+            sum += knownSets().lineSetsOf(k) * Sets.times(chance, k) * Sets.times(SURE - chance, land.lines - k);
         }
         return sum;
     }
 
     public int even() {
         for (int k = 1; k < land.lines; k++) {
-            if (row(k) * row(k) < row(k - 1) * row(k + 1)) {
+            int here = knownSets().lineSetsOf(k);
+            if (here * here < sets.lineSetsOf(k - 1) * sets.lineSetsOf(k + 1)) {
                 return 0;
             }
         }
@@ -351,7 +358,7 @@ public final class LetterThrough {
         if (what < 0 || what > 1 || land.things() > Looks.MOST_WITH) {
             return NONE;
         }
-        knownLooks();
+        know(KNOWN_LOOKS);
         return what == 0 ? finder.fewest() : finder.firstThing();
     }
 
@@ -427,65 +434,56 @@ public final class LetterThrough {
         return missing;
     }
 
-    private Sets knownSets() {
+    private boolean lacks(int parts, int part) {
+        return (parts & part) != 0 && isNew(part);
+    }
+
+    /** Works out what is asked for and not known yet, in an order in which each finds what it needs. */
+    private void know(int parts) {
         if (isNew(KNOWN_SETS)) {
             sets.workOut();
         }
+        if (lacks(parts, KNOWN_WAYS)) {
+            leastWays.find();
+        }
+        if (lacks(parts, KNOWN_CUTS)) {
+            leastCuts.find();
+        }
+        if (lacks(parts, KNOWN_BUILT)) {
+            built.workOut();
+        }
+        if (lacks(parts, KNOWN_MENDS)) {
+            built.mendAll();
+        }
+        if (lacks(parts, KNOWN_AGREES)) {
+            mail.compare();
+        }
+        if (lacks(parts, KNOWN_LOOKS)) {
+            finder.workOut();
+        }
+    }
+
+    private Sets knownSets() {
+        know(KNOWN_SETS);
         return sets;
     }
 
     private Least knownLeast(boolean cuts) {
-        Least least = cuts ? leastCuts : leastWays;
-        if (isNew(cuts ? KNOWN_CUTS : KNOWN_WAYS)) {
-            knownSets();
-            least.find();
-        }
-        return least;
-    }
-
-    private Built knownBuilt() {
-        if (isNew(KNOWN_BUILT)) {
-            knownSets();
-            built.workOut();
-        }
-        return built;
-    }
-
-    private Built knownMends() {
-        if (isNew(KNOWN_MENDS)) {
-            knownBuilt().mendAll();
-        }
-        return built;
+        know(cuts ? KNOWN_CUTS : KNOWN_WAYS);
+        return cuts ? leastCuts : leastWays;
     }
 
     private Mail knownMail() {
-        if (isNew(KNOWN_AGREES)) {
-            knownSets();
-            mail.compare();
-        }
+        know(KNOWN_AGREES);
         return mail;
     }
 
     private Mail knownDays(int a, int b) {
+        know(KNOWN_SETS);
         if (isNew(KNOWN_DAYS) || !mail.isFor(a, b)) {
-            knownSets();
             mail.travel(a, b);
         }
         return mail;
-    }
-
-    private void knownNew() {
-        if (isNew(KNOWN_NEW)) {
-            knownSets();
-            extra.tryAll();
-        }
-    }
-
-    private void knownLooks() {
-        if (isNew(KNOWN_LOOKS)) {
-            knownSets();
-            finder.workOut();
-        }
     }
 
     /** What a text tells: PLACES, LINES, KEEPERS, CAUSES, and what counts as THROUGH. */
@@ -796,20 +794,13 @@ public final class LetterThrough {
             return value;
         }
 
-        private int readPlace() {
-            return readNumber(0, land.places - 1);
-        }
-
-        private int readPlaceBut(int other) {
-            int p = readPlace();
+        /** A PLACE, but not this one (NONE: any). */
+        private int readPlace(int other) {
+            int p = readNumber(0, land.places - 1);
             if (p == other) {
                 blame(start, 1);
             }
             return p;
-        }
-
-        private int readChance() {
-            return readNumber(0, SURE);
         }
 
         private boolean clauseGoesOn() {
@@ -850,9 +841,9 @@ public final class LetterThrough {
 
         private void readLine() {
             refuseIf(land.lines >= MOST_LINES);
-            int a = readPlace();
-            int b = readPlaceBut(a);
-            int chance = readChance();
+            int a = readPlace(NONE);
+            int b = readPlace(a);
+            int chance = readNumber(0, SURE);
             int way = 0;
             int length = 0;
             for (int words = 0; words < MOST_BYTES && clauseGoesOn(); words++) {
@@ -872,11 +863,11 @@ public final class LetterThrough {
 
         private void readKeeper() {
             refuseIf(false);
-            int p = readPlace();
+            int p = readPlace(NONE);
             if (land.keeperOf(p) != NONE) {
                 blame(start, 2);
             }
-            int chance = readChance();
+            int chance = readNumber(0, SURE);
             if (fault == 0) {
                 land.addKeeper(p, chance);
             }
@@ -884,7 +875,7 @@ public final class LetterThrough {
 
         private void readCause() {
             refuseIf(land.causes >= MOST_CAUSES);
-            int chance = readChance();
+            int chance = readNumber(0, SURE);
             int itsLines = 0;
             int itsPlaces = 0;
             for (int items = 0; items < MOST_BYTES && (items == 0 || clauseGoesOn()); items++) {
@@ -892,7 +883,7 @@ public final class LetterThrough {
                 if (isWord("line")) {
                     itsLines |= 1 << readNumber(0, land.lines - 1);
                 } else if (isWord("place")) {
-                    itsPlaces |= 1 << readPlace();
+                    itsPlaces |= 1 << readPlace(NONE);
                 } else {
                     blame(start, 0);
                 }
@@ -907,26 +898,30 @@ public final class LetterThrough {
                 blame(start, 2);
             }
             throughTold = true;
-            readWord();
-            if (isWord("all")) {
-                land.countBy(BY_ALL, 0, 0, 0);
-            } else if (isWord("some")) {
-                int k = readNumber(1, land.places);
-                land.countBy(BY_SOME, k, readPlace(), 0);
-            } else if (isWord("one")) {
-                countPair(BY_ONE, 0);
-            } else if (isWord("two")) {
-                countPair(BY_TWO, 0);
-            } else if (isWord("days")) {
-                countPair(BY_DAYS, readNumber(1, MOST_DAYS));
-            } else {
-                blame(start, 0);
+            int what = readWhat();
+            int amount = 0;
+            if (what == BY_SOME || what == BY_DAYS) {
+                amount = readNumber(1, what == BY_SOME ? land.places : MOST_DAYS);
             }
+            int a = what == BY_ALL ? 0 : readPlace(NONE);
+            int b = what == BY_ALL || what == BY_SOME ? 0 : readPlace(a);
+            land.countBy(what, amount, a, b);
         }
 
-        private void countPair(int what, int amount) {
-            int a = readPlace();
-            land.countBy(what, amount, a, readPlaceBut(a));
+        private int readWhat() {
+            readWord();
+            if (isWord("one")) {
+                return BY_ONE;
+            } else if (isWord("some")) {
+                return BY_SOME;
+            } else if (isWord("days")) {
+                return BY_DAYS;
+            } else if (isWord("two")) {
+                return BY_TWO;
+            } else if (!isWord("all")) {
+                blame(start, 0);
+            }
+            return BY_ALL;
         }
     }
 
@@ -938,7 +933,7 @@ public final class LetterThrough {
         int needed;
         private int places;
         private final Land land;
-        private final int[] touches = new int[MOST_LINES + 1];
+        final int[] touches = new int[MOST_LINES + 1];
         private final int[] outOf = new int[MOST_LINES + 1];
         private final int[] into = new int[MOST_LINES + 1];
         private final int[] far = new int[MOST_PLACES];
@@ -968,10 +963,6 @@ public final class LetterThrough {
                 case BY_SOME: return 1 << land.first;
                 default: return 1 << land.first | 1 << land.second;
             }
-        }
-
-        int touchedBy(int i) {
-            return i < 0 || i >= lines ? 0 : touches[i];
         }
 
         /** PLACES that are led to from one: a LINE is gone along from its gates to its ends. */
@@ -1044,7 +1035,7 @@ public final class LetterThrough {
         // Two ways without a common LINE are there if and only if no single LINE stops it (Menger).
         private boolean leadsWithoutAny(int a, int b, int open) {
             for (int i = 0; i < lines; i++) {
-                if ((open >> i & 1) != 0 && !leads(a, b, open ^ 1 << i)) {
+                if ((open >> i & 1) != 0 && (reached(a, open ^ 1 << i, outOf) >> b & 1) == 0) {
                     return false;
                 }
             }
@@ -1142,8 +1133,8 @@ public final class LetterThrough {
 
         private void put(int itsChance, int itsLines, int itsPlaces) {
             int shut = itsLines;
-            for (int i = 0; i < MOST_LINES; i++) {
-                if ((roads.touchedBy(i) & itsPlaces) != 0) {
+            for (int i = 0; i < roads.lines; i++) {
+                if ((roads.touches[i] & itsPlaces) != 0) {
                     shut |= 1 << i;
                 }
             }
@@ -1383,17 +1374,18 @@ public final class LetterThrough {
             shareOut();
         }
 
-        /** Does what is asked of a WAY (a CUT) come about, if just these HOLD (have fallen). */
-        private boolean works(int s) {
-            return cuts ? !sets.isThrough(sets.size - 1 ^ s) : sets.isThrough(s);
+        /** The SET that goes with a number: of a CUT those that are not in it HOLD. */
+        private int holding(int s) {
+            return cuts ? sets.size - 1 ^ s : s;
         }
 
         private boolean isLeast(int s) {
-            if (!works(s)) {
+            int hold = holding(s);
+            if (sets.isThrough(hold) == cuts) {
                 return false;
             }
             for (int t = 0; t < things.count; t++) {
-                if ((s >> t & 1) != 0 && works(s ^ 1 << t)) {
+                if ((s >> t & 1) != 0 && sets.isThrough(hold ^ 1 << t) != cuts) {
                     return false;
                 }
             }
@@ -1430,7 +1422,7 @@ public final class LetterThrough {
         private void shareOut() {
             Arrays.fill(share, 0);
             for (int s = 0; s < sets.size; s++) {
-                int firstIn = firstIn(cuts ? sets.size - 1 ^ s : s);
+                int firstIn = firstIn(holding(s));
                 if (firstIn < told) {
                     share[firstIn] += sets.odds[s];
                 }
@@ -1785,27 +1777,27 @@ public final class LetterThrough {
             }
         }
 
-        private int digit(int state, int thing) {
-            return state / POWERS[thing] % 3;
-        }
-
         /** With more THINGS that HOLD it stays THROUGH, so the two ends tell for all between. */
         private boolean isSure(int state) {
             int hold = 0;
             int open = 0;
+            int rest = state;
             for (int t = 0; t < things; t++) {
-                hold |= digit(state, t) == 1 ? 1 << t : 0;
-                open |= digit(state, t) == 2 ? 1 << t : 0;
+                hold |= rest % 3 == 1 ? 1 << t : 0;
+                open |= rest % 3 == 2 ? 1 << t : 0;
+                rest /= 3;
             }
             return sets.isThrough(hold) == sets.isThrough(hold | open);
         }
 
         private int leastFrom(int state) {
             int least = things;
+            int rest = state;
             for (int t = 0; t < things; t++) {
-                if (digit(state, t) == 2) {
+                if (rest % 3 == 2) {
                     least = Math.min(least, neededBy(state, t));
                 }
+                rest /= 3;
             }
             return least;
         }

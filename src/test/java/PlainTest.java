@@ -232,17 +232,14 @@ public final class PlainTest {
         }
     }
 
+    /** How much, in hundredths of what .ci/run asks for; and another seed to begin with. */
     public static void main(String[] args) {
-        int scale = args.length > 0 ? Integer.parseInt(args[0]) : 1;
+        int scale = args.length > 0 ? Integer.parseInt(args[0]) : 100;
         long base = args.length > 1 ? Long.parseLong(args[1]) : 0;
-        for (int seed = 0; seed < 1500 * scale; seed++) new PlainTest(base + seed).run(4, random(seed), 40);
-        for (int seed = 0; seed < 3000 * scale; seed++) new PlainTest(base + 100000 + seed).runTexts();
-        for (int seed = 0; seed < 6 * scale; seed++) new PlainTest(base + 200000 + seed).run(3, 15, 30);
+        for (int seed = 0; seed < 15 * scale; seed++) new PlainTest(base + seed).run(4, 2 + seed % 8, 40);
+        for (int seed = 0; seed < 30 * scale; seed++) new PlainTest(base + 100000 + seed).runTexts();
+        for (int seed = 0; seed < 6 * scale / 100; seed++) new PlainTest(base + 200000 + seed).run(3, 15, 30);
         System.out.println(passed + " passed, " + failed + " failed");
         if (failed != 0) System.exit(1);
-    }
-
-    private static int random(int seed) {
-        return 2 + seed % 8;
     }
 }

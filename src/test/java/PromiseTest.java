@@ -206,6 +206,8 @@ public final class PromiseTest {
             {"places 1", 7, 1}, {"places 11", 7, 1}, {"places 123", 7, 1}, {"places 002", 7, 1}, {"places x", 7, 0},
             {"places 2;", 9, 0}, {"places 2; ", 10, 0}, {"places 2;;", 9, 0}, {"places 2 x", 9, 0}, {"places 2 3", 9, 0},
             {"places 2;places 2", 9, 0}, {"places 2;3", 9, 0}, {"places 2;lines 0 1 8", 9, 0}, {"places 2\0", 8, 0},
+            {"placesz 2", 0, 0}, {"places 2;linez 0 1 8", 9, 0}, {"places 2;aline 0 1 8", 9, 0}, {"places 2;lin 0 1 8", 9, 0},
+            {"places 2;line 0 1 8`", 19, 0}, {"places 2;line 0 1 8{", 19, 0}, {"places 2;line 0 1 8/", 19, 0}, {"places 2;line 0 1 8:", 19, 0},
             {"places 2;line 0 0 8", 16, 1}, {"places 2;line 0 2 8", 16, 1}, {"places 2;line 2 0 8", 14, 1},
             {"places 2;line 0 1 17", 18, 1}, {"places 2;line 0 1", 17, 0}, {"places 2;line 0 1;", 17, 0},
             {"places 2;line 0 1 100", 18, 1}, {"places 2;line 0 1 8 8", 20, 0}, {"places 2;line 0 1 8 two", 20, 0},
@@ -515,6 +517,7 @@ public final class PromiseTest {
         is("0 1 3 1", x.even(), 1);
         is("no lines", on("places 2").even(), 1);
         is("one line", kept.even(), 1);
+        is("all sets of 12", on(repeat("places 2", ";line 0 1 8", 12) + ";through some 1 0").even(), 1);
         // the two lines that lead there alone, 1, any third, 10; of four 45 with both and 2 * 36 with one of them
         LetterThrough uneven = on("places 4;line 0 1 8;line 0 1 8;line 0 2 8;line 0 2 8;line 0 2 8;line 2 3 8;line 2 3 8"
                 + ";line 2 3 8;line 3 1 8;line 3 1 8;line 3 1 8;line 3 1 8;through two 0 1");
@@ -742,6 +745,9 @@ public final class PromiseTest {
         is("no place", x.within(0, -1, 5), -1);
         is("only if it stands", on(KEPT).within(0, 1, 1), 1536);
         is("not back", on(KEPT).within(1, 0, 99), 0);
+        is("to another place", x.within(1, 2, 1), 3072);
+        is("from another place", x.within(0, 2, 2), 2176);
+        is("back", x.within(2, 0, 2), 2176);
         promise("28 soon");
         is("0 sixteenths", x.soon(0, 2, 0), 1);
         is("1", x.soon(0, 2, 1), 2);

@@ -1,3 +1,5 @@
+import java.io.PrintWriter;
+import java.io.StringWriter;
 import java.lang.reflect.Constructor;
 import java.lang.reflect.Field;
 import java.lang.reflect.Method;
@@ -6,11 +8,14 @@ import java.nio.charset.StandardCharsets;
 import java.nio.file.Files;
 import java.nio.file.Path;
 import java.util.ArrayList;
+import java.util.HashMap;
 import java.util.List;
+import java.util.Map;
 import java.util.Set;
 import java.util.TreeSet;
 import java.util.regex.Matcher;
 import java.util.regex.Pattern;
+import java.util.spi.ToolProvider;
 
 /** The face of the class, and what of ../shared/LANGUAGE.md can be seen from the text and the class files. */
 public final class RulesTest {
@@ -127,6 +132,53 @@ public final class RulesTest {
         }
     }
 
+    /** By javap: which method calls which, to see that none calls itself and none goes more than eight deep. */
+    private static void depth() throws Exception {
+        Map<String, Set<String>> calls = new HashMap<>();
+        Path home = Path.of(LetterThrough.class.getProtectionDomain().getCodeSource().getLocation().toURI());
+        List<String> args = new ArrayList<>(List.of("-p", "-c", home.resolve("LetterThrough.class").toString()));
+        for (Class<?> part : LetterThrough.class.getDeclaredClasses()) {
+            args.add(home.resolve(part.getName() + ".class").toString());
+        }
+        StringWriter out = new StringWriter();
+        ToolProvider.findFirst("javap").orElseThrow().run(new PrintWriter(out), new PrintWriter(out), args.toArray(new String[0]));
+        Pattern type = Pattern.compile("(?:\\w+ )*class (\\S+) \\{");
+        Pattern method = Pattern.compile("  (?:[\\w\\[\\].$]+ )*([\\w$.]+)\\(.*\\);");
+        Pattern invoke = Pattern.compile(".*invoke\\w+ .*// Method ([\\w.$]+):.*");
+        String inside = "";
+        String at = "";
+        for (String line : out.toString().lines().toList()) {
+            Matcher m = type.matcher(line);
+            if (m.matches()) {
+                inside = m.group(1);
+            }
+            m = method.matcher(line);
+            if (m.matches()) {
+                at = inside + "." + m.group(1);
+                calls.putIfAbsent(at, new TreeSet<>());
+            }
+            m = invoke.matcher(line);
+            if (m.matches() && !m.group(1).startsWith("java/")) {
+                calls.get(at).add(m.group(1).contains(".") ? m.group(1) : inside + "." + m.group(1));
+            }
+        }
+        is("calls are seen", calls.size() > 120);
+        for (String name : calls.keySet()) {
+            int deep = deep(name, calls, 1);
+            is(name + " goes " + deep + " deep", deep <= 8);
+        }
+    }
+
+    private static int deep(String name, Map<String, Set<String>> calls, int level) {
+        int deepest = level;
+        for (String next : calls.getOrDefault(name, Set.of())) {
+            if (level < 20) {
+                deepest = Math.max(deepest, deep(next, calls, level + 1));
+            }
+        }
+        return deepest;
+    }
+
     /** A new object costs little, and no call makes anything once the rows have grown. */
     private static void room() throws Exception {
         com.sun.management.ThreadMXBean meter = (com.sun.management.ThreadMXBean) java.lang.management.ManagementFactory.getThreadMXBean();
@@ -207,6 +259,7 @@ public final class RulesTest {
     public static void main(String[] args) throws Exception {
         face();
         text();
+        depth();
         room();
         System.out.println(passed + " passed, " + failed + " failed");
         if (failed != 0) {
