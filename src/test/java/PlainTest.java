@@ -34,21 +34,12 @@ public final class PlainTest {
         }
     }
 
-    static int[] pack(String text, int from) {
-        int[] numbers = new int[5];
-        for (int i = 0; i < 20; i++) {
-            int c = from + i < text.length() ? text.charAt(from + i) & 255 : 0;
-            numbers[i / 4] = numbers[i / 4] << 8 | c;
-        }
-        return numbers;
-    }
-
     void tell(String text) {
         log.append("\n[").append(text).append("]");
         x.end(0);
         y.end(0);
         for (int i = 0; i < text.length(); i += 20) {
-            int[] n = pack(text, i);
+            int[] n = Checks.pack(text, i);
             same("feed", x.feed(n[0], n[1], n[2], n[3], n[4]), y.feed(n));
         }
         same("end", x.end(text.length()), y.end(text.length()));

@@ -1,59 +1,7 @@
 /** What each promise says, by hand: ordinary inputs, the edges the document names, and wrong inputs. */
-public final class PromiseTest {
-    private static int passed;
-    private static int failed;
-    private static String about = "";
-
-    private static final int LOW = Integer.MIN_VALUE;
-    private static final int HIGH = Integer.MAX_VALUE;
-    private static final String TRIANGLE = "places 3;line 0 1 8;line 1 2 12;line 0 2 4 days 2;through one 0 2";
-    private static final String KEPT = "places 2;line 0 1 16 one;keep 1 8;cause 12 line 0 place 1;through one 0 1";
-
+public final class PromiseTest extends Checks {
     private static void promise(String name) {
         about = name;
-    }
-
-    private static void is(String what, long got, long want) {
-        if (got == want) {
-            passed++;
-        } else {
-            failed++;
-            System.out.println(about + ": " + what + " answered " + got + ", due is " + want);
-        }
-    }
-
-    private static void feedAll(LetterThrough x, String text) {
-        for (int i = 0; i < text.length(); i += 20) {
-            int[] n = new int[5];
-            for (int j = 0; j < 20; j++) {
-                int c = i + j < text.length() ? text.charAt(i + j) : 0;
-                n[j / 4] = n[j / 4] << 8 | c & 255;
-            }
-            x.feed(n[0], n[1], n[2], n[3], n[4]);
-        }
-        x.end(text.length());
-    }
-
-    private static int tell(LetterThrough x, String text) {
-        feedAll(x, text);
-        return x.land();
-    }
-
-    private static LetterThrough on(String text) {
-        LetterThrough x = new LetterThrough();
-        int m = tell(x, text);
-        if (m < 0) {
-            is("land of " + text, m, 0);
-        }
-        return x;
-    }
-
-    private static int fault(int place, int kind) {
-        return -2 - (1 + 8 * place + kind);
-    }
-
-    private static String repeat(String head, String part, int times) {
-        return head + part.repeat(times);
     }
 
     public static void main(String[] args) {
@@ -770,12 +718,7 @@ public final class PromiseTest {
         is("to itself", x.mean(0, 0, 0), -1);
         is("no place", x.mean(0, 3, 0), -1);
         is("never", on(KEPT).mean(1, 0, 0), 0);
-        StringBuilder far = new StringBuilder("places 10");
-        for (int p = 0; p < 9; p++) {
-            far.append(";line ").append(p).append(' ').append(p + 1).append(" 16 days 9");
-        }
-        far.append(";keep 0 16;keep 1 16;keep 2 16;keep 3 16;keep 4 16;keep 5 16");
-        LetterThrough long81 = on(far.toString());
+        LetterThrough long81 = on(chain(10, "16 days 9") + ";keep 0 16;keep 1 16;keep 2 16;keep 3 16;keep 4 16;keep 5 16");
         is("81 days", long81.soon(0, 9, 16), 81);
         is("going round 64 bits", long81.mean(0, 9, 0), 81 * (1L << 60));
     }
