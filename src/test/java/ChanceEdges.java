@@ -113,6 +113,8 @@ final class ChanceEdges extends Checks {
     static void throughAll() {
         sets("places 2;line 0 1 8 one", "00");
         sets("places 2;line 1 0 8 one", "00");
+        sets("places 2;line 1 0 8", "01");
+        sets("places 3;line 2 1 8;line 1 0 8", "0001");
         sets("places 2;line 0 1 8 one;line 1 0 8 one", "0001");
         sets("places 3;line 0 1 8", "00");
         sets("places 3;line 0 1 8 one;line 1 2 8 one;line 2 0 8 one", "00000001");
@@ -142,6 +144,8 @@ final class ChanceEdges extends Checks {
         sets("places 2;line 0 1 8 one;through days 99 1 0", "00");
         is("81 DAYS within 81", on(chain(10, "8 days 9") + ";through days 81 9 0").so(511), 1);
         is("81 DAYS within 80", on(chain(10, "8 days 9") + ";through days 80 9 0").so(511), 0);
+        is("against the order told", on("places 4;line 2 3 8;line 1 2 8;line 0 1 8;through days 3 0 3").so(7), 1);
+        is("a longer way round changes nothing", on("places 3;line 0 1 8 days 2;line 0 2 8 days 4;line 1 2 8 days 3;through days 2 0 1").so(7), 1);
     }
 
     @Edge(promise = 7, says = "two: as one, by two ways that have no LINE in common.")
@@ -338,6 +342,15 @@ final class ChanceEdges extends Checks {
         is("its CUTS: a KEEPER, or all LINES, one of them by its CAUSE", on(FULL).ways(true), 4);
     }
 
+    @Edge(promise = 13, says = "CUTS: least sets of THINGS by the falling of which (all others HOLD) it isn't.")
+    static void leastCuts() {
+        is("one behind the other", on("places 3;line 0 1 8;line 1 2 8;through one 0 2").ways(true), 2);
+        is("side by side", on("places 2;line 0 1 8;line 0 1 8;through one 0 1").ways(true), 1);
+        is("with a USELESS one", on("places 3;line 0 1 8;line 0 2 8;through one 0 1").ways(true), 1);
+        is("of THINGS of CHANCE 16, too", on("places 2;line 0 1 16;keep 0 16;through one 0 1").ways(true), 2);
+        is("all others HOLD, be their CHANCE 0", on("places 2;line 0 1 0;keep 0 0;keep 1 0;through one 0 1").ways(true), 3);
+    }
+
     // ---- 14: way ----
 
     @Edge(promise = 14, says = "NONE without it")
@@ -375,12 +388,18 @@ final class ChanceEdges extends Checks {
         is("CUT 59", y.way(true, 59), 0b010101100101);
         none("CUT 60 of 64", y.way(true, 60));
         none("CUT 63 of 64", y.way(true, 63));
+        LetterThrough alike = on(PAIRS.replace(" 9;", " 8;").replace(" 4;", " 8;"));
+        is("WAY 0 of 64 alike", alike.way(false, 0), 0b010101010101);
+        is("WAY 58 of 64 alike", alike.way(false, 58), 0b101010011001);
+        is("WAY 59 of 64 alike", alike.way(false, 59), 0b101010011010);
+        none("WAY 60 of 64 alike", alike.way(false, 60));
     }
 
     @Edge(promise = 14, says = "those with the greatest CHANCE first (a WAY: that all in it HOLD;")
     static void likeliestWayFirst() {
         is("of two THINGS before one of less", on("places 3;line 0 1 16;line 1 2 15;line 0 2 14;through one 0 2").way(false, 0), 3);
         is("one THING before two of less", on("places 3;line 0 1 14;line 1 2 15;line 0 2 14;through one 0 2").way(false, 0), 4);
+        is("10 by 9 before 15 by 5", on("places 4;line 0 1 15;line 1 2 5;line 0 3 10;line 3 2 9;through one 0 2").way(false, 0), 12);
         is("of PAIRS", on(PAIRS).way(false, 0), 0b010101010101);
         is("then", on(PAIRS).way(false, 1), 0b010101010110);
         is("then the greatest of one other", on(PAIRS).way(false, 6), 0b100101010101);
@@ -392,6 +411,8 @@ final class ChanceEdges extends Checks {
         is("the frail one", on("places 3;line 0 1 9;line 1 2 8;through one 0 2").way(true, 0), 2);
         is("two frail ones before a steady one", on("places 3;line 0 1 2;line 0 1 3;line 1 2 9;through one 0 2").way(true, 0), 3);
         is("a steady one before two steadier", on("places 3;line 0 1 8;line 0 1 8;line 1 2 9;through one 0 2").way(true, 0), 4);
+        is("10 by 9 before 15 by 5", on("places 3;line 0 1 1;line 0 1 11;line 1 2 6;line 1 2 7;through one 0 2").way(true, 0), 12);
+        is("what can't be comes last", on("places 3;line 0 1 16;line 0 1 0;line 1 2 15;line 1 2 15;through one 0 2").way(true, 0), 12);
         is("of BUNDLE", on(BUNDLE).way(true, 0), 0b101010101010);
         is("then", on(BUNDLE).way(true, 1), 0b011010101010);
     }

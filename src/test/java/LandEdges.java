@@ -217,6 +217,20 @@ final class LandEdges extends Checks {
         is("so is the next LETTER", x.letter(0, 1, true), 0);
     }
 
+    @Edge(promise = 4, says = "is the LAND")
+    static void nothingStaysOfTheLandAhead() {
+        for (String before : LANDS) {
+            for (String after : LANDS) {
+                LetterThrough x = on(before);
+                x.mending(0, 3, 16);
+                x.letter(0, 1, false);
+                answers(x);
+                tell(x, after);
+                same("[" + after + "] after [" + before + "]", answers(x), answers(on(after)));
+            }
+        }
+    }
+
     @Edge(promise = 4, says = "through all without")
     static void throughGoesToo() {
         LetterThrough x = on("places 2;through days 7 1 0");
@@ -508,11 +522,27 @@ final class LandEdges extends Checks {
     static void wordsGoAsFarAsLetters() {
         refused("^place 2", 0);
         refused("^placess 2", 0);
+        refused("^placesz 2", 0);
+        refused("^placesa 2", 0);
+        refused("^aplaces 2", 0);
+        refused("^zlaces 2", 0);
+        refused("^placez 2", 0);
         refused("^Places 2", 0);
         refused("places 2;^lin 0 1 8", 0);
         refused("places 2;^lines 0 1 8", 0);
         refused("places 2;^aline 0 1 8", 0);
+        refused("places 2;^fine 0 1 8", 0);
+        refused("places 2;^link 0 1 8", 0);
         refused("places 2;^LINE 0 1 8", 0);
+        refused("places 2;^peep 0 8", 0);
+        refused("places 2;^pause 8 place 0", 0);
+        refused("places 2;^chrough all", 0);
+        refused("places 2;line 0 1 8 ^ode", 0);
+        refused("places 2;line 0 1 8 ^bays 3", 0);
+        refused("places 2;through ^ill", 0);
+        refused("places 2;through ^ona 0 1", 0);
+        refused("places 2;through ^dome 1 0", 0);
+        refused("places 2;through ^too 0 1", 0);
         refused("places 2;^keeper 0 8", 0);
         refused("places 2;^causes 8 place 0", 0);
         refused("places 2;^throughall", 0);

@@ -38,6 +38,7 @@ final class LetterEdges extends Checks {
         for (int i = 0; i < 5; i++) {
             x.letter(0, 2, true);
         }
+        is("five", x.thought(0, 1), 2176);
         is("the sixth", x.letter(0, 1, false), 5);
         // 0 to 2 straight, and not by 1 or back: LINE 2 alone HOLDS
         is("it counts", x.thought(0, 1), 8 * 4 * 4);
@@ -189,7 +190,12 @@ final class LetterEdges extends Checks {
         LetterThrough x = on("places 2;line 0 1 8 one;keep 1 4;through some 1 0");
         is("LINE and KEEPER", x.within(0, 1, 1), 32);
         is("not back", x.within(1, 0, 99), 0);
-        is("LETTERS do not count", on(TRIANGLE).within(0, 1, 1), 2048);
+        LetterThrough y = on(TRIANGLE);
+        y.letter(0, 1, false);
+        is("LETTERS do not count", y.within(0, 1, 1), 2048);
+        is("from another PLACE", y.within(2, 1, 1), 3072);
+        is("to another PLACE", y.within(2, 0, 1), 0);
+        is("back", y.within(0, 2, 2), 2176);
     }
 
     @Edge(promise = 27, says = "NONE without these (a and b unlike)")
@@ -348,6 +354,8 @@ final class LetterEdges extends Checks {
         is("these two keep their two", on("places 3;line 0 1 8;line 1 2 8;line 2 0 8").joined(0, 1), 1);
         is("a dead end", on("places 3;line 0 2 8").joined(0, 1), 0);
         is("three are kept", on("places 4;line 0 1 8;line 0 2 8;line 0 3 8;line 1 2 8;line 1 3 8;line 2 3 8").joined(0, 1), 6);
+        is("dead ends of the first PLACE", on("places 5;line 0 1 8;line 0 2 8;line 0 3 8;line 0 4 8").joined(1, 2), 1);
+        is("dead ends of the last PLACE", on("places 5;line 4 1 8;line 4 2 8;line 4 3 8;line 4 0 8").joined(1, 2), 1);
         is("a third that goes makes two of three", on("places 5;line 0 2 8;line 0 3 8;line 2 3 8;line 2 1 8;line 3 1 8;line 2 4 8").joined(0, 1), 5);
     }
 

@@ -176,6 +176,7 @@ final class MoneyEdges extends Checks {
         x.mending(0, 1, 16);
         none("set", x.mended(0));
         none("of a new object", new LetterThrough().mended(0));
+        none("coins of a new object", new LetterThrough().mended(1));
         x.mend(0);
         is("nothing, for nothing", x.mended(0), 0);
         is("nothing, for nothing", x.mended(1), 0);
@@ -293,7 +294,15 @@ final class MoneyEdges extends Checks {
         LetterThrough last = on("places 10;through one 9 8");
         is("a", last.add(16, 1), 8);
         is("b", last.add(16, 2), 9);
+        is("one DAY and one of another LINE", on("places 3;line 0 2 16;through days 1 1 2").add(16, 1), 1);
+        is("among ten, too", on("places 10;through days 9 1 0").add(16, 0), 16);
         is("only where both STAND", on("places 2;keep 0 3;keep 1 5;through one 0 1").add(16, 0), 15 * 16);
+        LetterThrough to = on("places 3;keep 1 5;keep 2 7;through some 2 0");
+        is("only if b STANDS", to.add(16, 0), 7 * 256);
+        is("so rather to 2", to.add(16, 2), 2);
+        LetterThrough from = on("places 3;keep 0 5;keep 1 7;through some 2 2");
+        is("only if a STANDS", from.add(16, 0), 7 * 256);
+        is("so rather from 1", from.add(16, 1), 1);
         is("no CAUSE names it", on("places 2;line 0 1 0;cause 0 line 0;through one 0 1").add(16, 0), 4096);
         is("a second way", on("places 2;line 0 1 16;through two 0 1").add(7, 0), 7 * 16);
     }
@@ -318,7 +327,9 @@ final class MoneyEdges extends Checks {
     static void planWithoutLines() {
         is("never", new LetterThrough().plan(1), -2);
         is("never, but for 0", new LetterThrough().plan(0), 0);
-        is("always", on("places 2;through some 1 0").plan(16), 0);
+        for (int n = 0; n <= 16; n++) {
+            is("always, for " + n, on("places 2;through some 1 0").plan(n), 0);
+        }
         is("always, with a LINE", on("places 2;line 0 1 16;through some 1 0").plan(16), 0);
         is("as the KEEPER is", on("places 2;line 0 1 16;keep 0 4;through one 0 1").plan(4), 1);
         is("not above it", on("places 2;line 0 1 16;keep 0 4;through one 0 1").plan(5), -2);

@@ -21,6 +21,12 @@ final class OtherEdges extends Checks {
         is("12 and 3 in two", on(twelve + ";cause 16 line 0;cause 0 place 0 line 2").alone(1), 1L << 60);
         is("never", on(twelve + ";cause 16 line 0;cause 0 place 0 line 2").alone(0), 0);
         is("15 at once", on(FULL).alone(0), 1L << 60);
+        is("three CAUSES", on("places 2;line 0 1 16;cause 4 line 0;cause 5 place 0;cause 6 place 1").alone(0), 16 * 4 * 5 * 6);
+        is("what is not named is not felled", on("places 2;line 0 1 8;cause 3 line 0;through some 1 0").alone(0), 256);
+        is("what is not named is not felled", on("places 3;line 0 1 8;cause 3 place 2;through one 0 1").alone(0), 128);
+        is("LINE 11", on(repeat("places 2", ";line 0 1 0", 11) + ";line 0 1 16;cause 5 line 11").alone(0), 5L << 48);
+        is("PLACE 9", on("places 10;line 9 8 16;cause 5 place 9;through one 9 8").alone(0), 80);
+        is("what is named is", on("places 3;line 0 1 8;cause 3 place 1;through one 0 1").alone(0), 24);
     }
 
     @Edge(promise = 31, says = "(an ITEM named several times by one CAUSE: one)")
@@ -337,6 +343,33 @@ final class OtherEdges extends Checks {
         is("MENDING", x.mend(99), 4096);
         is("THOUGHT", x.thought(2, 0), 0);
         is("of", x.thought(2, 1), 1920);
+    }
+
+    @Edge(promise = 39, says = "All is as in an IMAGE")
+    static void nothingStaysOfWhatWasAhead() {
+        for (String before : LANDS) {
+            for (String after : LANDS) {
+                LetterThrough x = on(after);
+                note(x, 16, true);
+                x.image(2);
+                tell(x, before);
+                note(x, 15, false);
+                note(x, 16, false);
+                answers(x);
+                x.restore(2);
+                LetterThrough y = on(after);
+                note(y, 16, true);
+                same("[" + after + "] instead of [" + before + "]", answers(x), answers(y));
+            }
+        }
+    }
+
+    /** MENDINGS and LETTERS that are others for other arguments. */
+    private static void note(LetterThrough x, int to, boolean came) {
+        x.mending(x.count(1) - 1, to - 12, to);
+        x.mending(0, to - 10, to - 1);
+        x.letter(0, x.count(0) - 1, came);
+        x.letter(came ? 1 : 0, came ? 0 : 1, !came);
     }
 
     @Edge(promise = 39, says = "NONE, and nothing happens, if it was never made, or without it.")
